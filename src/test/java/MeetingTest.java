@@ -9,6 +9,7 @@ public final class MeetingTest {
         pureClauses();
         besideAProof();
         nestedTwiceInTwice();
+        longChain();
         Check.finish("MeetingTest");
     }
 
@@ -80,6 +81,12 @@ public final class MeetingTest {
         Check.due("pure", Check.told("p(a)|-p(b).").pure(), 1);
         Check.due("pure", Check.told("p(a)|-p(b). p(b). q(X).").pure(), 7);
         Check.due("pure", Check.told("a.".repeat(16)).pure(), 65535);
+        // One goes in each of sixteen rounds.
+        StringBuilder chain = new StringBuilder("a.");
+        for (char c = 'a'; c < 'p'; c++) {
+            chain.append("-" + c + "|" + (char) (c + 1) + ".");
+        }
+        Check.due("pure", Check.told(chain.toString()).pure(), 65535);
         Check.due("pure", Check.told("a.-a.".repeat(8)).pure(), 0);
     }
 
@@ -93,6 +100,29 @@ public final class MeetingTest {
         Check.due("shown", Check.shown(x, 0, 1), "q(f(a),g(Z2))");
         Check.due("shown", Check.shown(x, 0, 0), "p(f(a))");
         Check.due("show", Check.show(x, 0, 1), "q(X,Y)");
+    }
+
+    /** A VARIABLE bound to nine times one that is bound to nine times the next one, fourteen times: found at once. */
+    private static void longChain() {
+        StringBuilder[] sides = {new StringBuilder(), new StringBuilder()};
+        String[] one = new String[14];
+        String[] other = new String[14];
+        for (int i = 0; i < 14; i++) {
+            String low = String.valueOf((char) ('H' - (i + 1) / 2));
+            String high = String.valueOf((char) ('H' - (i + 2) / 2));
+            String nine = "g(g(Q,Q,Q),g(Q,Q,Q),g(Q,Q,Q))".replace("Q", i % 2 == 0 ? low : high);
+            one[i] = i % 2 == 0 ? nine : low;
+            other[i] = i % 2 == 0 ? high : nine.replace(high, low);
+        }
+        for (int side = 0; side < 2; side++) {
+            String[] e = side == 0 ? one : other;
+            sides[side].append(side == 0 ? "p(c(" : "-p(c(");
+            for (int i = 0; i < 9; i += 3) {
+                sides[side].append(i == 0 ? "" : ",").append("c(" + e[i] + "," + e[i + 1] + "," + e[i + 2] + ")");
+            }
+            sides[side].append("),c(" + e[9] + "," + e[10] + "," + e[11] + "),c(" + e[12] + "," + e[13] + "))");
+        }
+        pair(sides[0].toString(), sides[1].toString(), 1);
     }
 
     /** Terms of some 3 to the 7th parts are ALIKE or not, without going through all of them more than once. */

@@ -12,6 +12,9 @@ public final class ProofTest {
         openWays();
         untold();
         greatLiterals();
+        justGreat();
+        anotherProof();
+        manySteps();
         proofGoes();
         Check.finish("ProofTest");
     }
@@ -192,30 +195,36 @@ public final class ProofTest {
 
     /**
      * A START a|b|c|d|e|f; each of them closed by a CLAUSE that has it so many times with "-" (closed by REDUCTION, and
-     * OPEN when another one of the START is on the way) and so many others that are closed by one of their own each.
+     * OPEN when another one of the START is on the way), so many others that are closed by one of their own each, and
+     * so many that are closed by one that needs one more.
      */
-    private static String wide(int[] free, int[] others) {
+    private static String wide(int[]... counts) {
         StringBuilder text = new StringBuilder("a|b|c|d|e|f.");
-        for (int j = 0; j < free.length; j++) {
+        for (int j = 0; j < counts.length; j++) {
             char name = (char) ('a' + j);
-            String row = ("|-" + name).repeat(free[j]) + ("|x" + name).repeat(others[j]);
+            String row = ("|-" + name).repeat(counts[j][0]) + ("|x" + name).repeat(counts[j][1])
+                    + ("|w" + name).repeat(counts[j][2]);
             text.append(row.substring(1)).append(".");
-            text.append(others[j] > 0 ? "-x" + name + "." : "");
+            text.append(counts[j][1] > 0 ? "-x" + name + "." : "");
+            text.append(counts[j][2] > 0 ? "-w" + name + "|y" + name + ".-y" + name + "." : "");
         }
         return text.toString();
     }
 
     private static void untold() {
-        // 19998 LOOKS with all, 20001 of the second one, some 56000 of the third one.
-        untold(wide(new int[] {6, 4, 5, 4, 2, 1}, new int[] {0, 1, 0, 2, 4, 0}), 1);
-        untold(wide(new int[] {3, 5, 5, 5, 2, 1}, new int[] {1, 0, 0, 1, 4, 4}), -2);
-        untold(wide(new int[] {6, 6, 6, 6, 6, 6}, new int[] {0, 0, 0, 0, 0, 0}), -2);
+        // Just 20000 LOOKS with all INSTANCES, one more of the next one, some 56000 of the last one.
+        untold(wide(new int[] {5, 0, 1}, new int[] {2, 1, 0}, new int[] {5, 0, 0}, new int[] {6, 0, 0},
+                new int[] {3, 2, 1}, new int[] {4, 1, 0}), 1);
+        untold(wide(new int[] {5, 0, 0}, new int[] {3, 3, 0}, new int[] {4, 1, 0}, new int[] {5, 0, 1},
+                new int[] {3, 0, 1}, new int[] {2, 3, 0}), -2);
+        int[] most = {6, 0, 0};
+        untold(wide(most, most, most, most, most, most), -2);
     }
 
     private static void untold(String text, int want) {
         OppositePairs x = Check.told(text);
         Model model = new Model(text);
-        Check.due("solve", x.solve(0, 2, 0), model.solve(0, 2, 0));
+        Check.due("solve", x.solve(0, 3, 0), model.solve(0, 3, 0));
         Check.due("closed(-1)", x.closed(-1), want);
         Check.due("closed(-1)", x.closed(-1), model.closed(-1));
         int needed = 0;
@@ -248,6 +257,51 @@ public final class ProofTest {
         Check.due("closed(1)", y.closed(1), 0);
         Check.due("shown(0, 0)", y.shown(0, 0), NONE);
         Check.due("shown", Check.shown(y, 0, 4), "d(f(f(G6,G6,G6),f(G6,G6,G6),f(G6,G6,G6)),f(G6,G6,G6))".replace("G6", "X7"));
+    }
+
+    /** q(A) comes to have 2000 parts, d(A,B) still more: the first OPEN way has the second one, with 2001 the first. */
+    private static void justGreat() {
+        String great = "f(f(f(a,a,a),f(a,a,a),f(a,a,a)),f(f(a,a,a),f(a,a,a),f(a,a,a)),f(f(a,a,a),f(a,a,a),f(a,a,a)))";
+        String rules = "|d(A,B)|d(B,C)|d(C,D)|d(D,E)|e(E). -d(g(X,X),X). -e(h(F,F,F))|-n(F). n(i(" + great + ")). ";
+        OppositePairs x = Check.told("q(A)" + rules + "-q(X).");
+        Check.due("solve", x.solve(0, 2, 0), 1);
+        int last = x.instance(-1) - 1;
+        Check.due("open", x.open(last, 0), 1);
+        OppositePairs y = Check.told("q(A,k)" + rules + "-q(X,k).");
+        Check.due("solve", y.solve(0, 2, 0), 1);
+        Check.due("open", y.open(last, 0), 0);
+    }
+
+    /** What was found of one PROOF does not stand for the next one. */
+    private static void anotherProof() {
+        OppositePairs x = Check.told("p|p. -p. p|q. -q.");
+        Check.due("solve", x.solve(0, 1, 0), 1);
+        Check.due("closed(1)", x.closed(1), 1);
+        Check.due("solve", x.solve(2, 1, 0), 1);
+        Check.due("closed(1)", x.closed(1), 0);
+        Check.due("solve", x.solve(0, 1, 0), 1);
+        Check.due("closed(1)", x.closed(1), 1);
+        Check.due("deepen", x.deepen(2, 1, 0), 1);
+        Check.due("closed(1)", x.closed(1), 0);
+        Check.due("any", x.any(1, 0), 0);
+        Check.due("closed(1)", x.closed(1), 1);
+    }
+
+    /** Thirty INSTANCES of six LITERALS, nearly all of which are closed by steps of their own. */
+    private static void manySteps() {
+        String text = "a|b|a|b|a|b. -a|-a|-a|-a|-a|a. -b|-b|-b|-b|-b|b. -a. -b.";
+        OppositePairs x = Check.told(text);
+        Model model = new Model(text);
+        Check.due("solve", x.solve(0, 20, 6), model.solve(0, 20, 6));
+        Check.due("steps", x.step(-1, 0), model.proof.steps().size());
+        Check.due("many", x.step(-1, 0) > 130, true);
+        Check.due("instances", x.instance(-1), 30);
+        for (int i = 0; i < x.step(-1, 0); i++) {
+            Model.Step want = model.proof.steps().get(i);
+            step(x, i, new int[] {want.kind(), want.goal().instance(), want.goal().literal(), want.by().instance(),
+                want.by().literal(), want.path()});
+        }
+        Check.due("closed(-1)", x.closed(-1), model.closed(-1));
     }
 
     private static void proofGoes() {

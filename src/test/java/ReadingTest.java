@@ -12,6 +12,7 @@ public final class ReadingTest {
         newObject();
         tapeComesAndEnds();
         faultsAtTheirPlaces();
+        behindTheEnd();
         faultLeavesAllAsItIs();
         clausesComeAndGo();
         clauseTells();
@@ -139,6 +140,38 @@ public final class ReadingTest {
         fault("a.".repeat(16) + "abcdefghi.", 1, 32);
     }
 
+    /** What stood on THE TAPE behind its end is not there. */
+    private static void behindTheEnd() {
+        OppositePairs x = new OppositePairs();
+        Check.tape(x, "pqr  .    (a). -b.|c. ");
+        Check.due("end(3)", x.end(3), true);
+        Check.due("clauses", x.clauses(), NONE);
+        Check.due("fault(1)", x.fault(1), 3);
+        Check.tape(x, "pqr.");
+        Check.due("end(2)", x.end(2), true);
+        Check.due("clauses", x.clauses(), NONE);
+        Check.due("fault(1)", x.fault(1), 2);
+        Check.tape(x, "p.");
+        Check.due("clauses", x.clauses(), 1);
+        Check.due("show", Check.show(x, 0, 0), "p");
+        Check.tape(x, "abcd.efghi.");
+        Check.due("end(7)", x.end(7), true);
+        Check.due("feed", x.feed(0x2E202020, 0x20202020, 0x20202020, 0x20202020, 0x20202020), 27);
+        Check.due("clauses", x.clauses(), 2);
+        Check.due("show", Check.show(x, 1, 0), "ef");
+        // All 600 bytes: blanks up to the end, and a NAME up to it.
+        for (int n = 0; n < 30; n++) {
+            x.feed(0x20202020, 0x0A0A0A0A, 0x20202020, 0x20202020, n == 29 ? 0x2020202E : 0x20202020);
+        }
+        Check.due("clauses", x.clauses(), NONE);
+        Check.due("fault(1)", x.fault(1), 599);
+        for (int n = 0; n < 30; n++) {
+            x.feed(0x20202020, 0x0A0A0A0A, 0x20202020, 0x20202020, n == 29 ? 0x20207070 : 0x20202020);
+        }
+        Check.due("clauses", x.clauses(), NONE);
+        Check.due("fault(1)", x.fault(1), 600);
+    }
+
     private static void faultLeavesAllAsItIs() {
         OppositePairs x = Check.told("p|q(X). -p. -q(a).");
         Check.due("solve", x.solve(0, 3, 0), 1);
@@ -178,6 +211,13 @@ public final class ReadingTest {
         Check.due("drop(0)", x.drop(0), true);
         Check.due("drop(0)", x.drop(0), false);
         Check.due("look(0)", x.look(0), 0);
+        OppositePairs y = Check.told("p(X). p(X,Y). p(X,Y,Z). p(a)|-p.");
+        Check.due("drop(0)", y.drop(0), true);
+        for (int c = 0; c < 3; c++) {
+            Check.due("LITERALS", y.clause(c, 0), c == 2 ? 2 : 1);
+            Check.due("VARIABLES", y.clause(c, 1), c == 2 ? 0 : c + 2);
+            Check.due("parts", y.clause(c, 2), c + 3 - c / 2 * 2);
+        }
         OppositePairs full = Check.told("a.".repeat(15) + "z.");
         Check.due("drop(15)", full.drop(15), true);
         Check.due("show", Check.show(full, 14, 0), "a");

@@ -166,6 +166,12 @@ public final class SearchTest {
         OppositePairs v = Check.told("p(X)|p(Y). -p(a).");
         Check.due("solve", v.solve(0, 1, LEMMATA), 1);
         Check.due("look(5)", v.look(5), 0);
+        // A VARIABLE is ALIKE no NAME.
+        for (String name : new String[] {"bx", "x", "cx", "cxa"}) {
+            OppositePairs w = Check.told("p(" + name + ")|p(X)|p(Y)|p(Z). -p(V).");
+            Check.due("solve", w.solve(0, 1, LEMMATA), 1);
+            Check.due("look(5)", w.look(5), 0);
+        }
     }
 
     private static void restricted() {
@@ -271,12 +277,19 @@ public final class SearchTest {
         Check.due("answer(-1, 0)", x.answer(-1, 0), 8);
         answer(x, 0, 0, 1, 1, 0);
         answer(x, 7, 1, 0, 0, 0);
+        x.solve(2, 0, 0);
+        answer(x, 0, 0, 2, 2, 1);
+        answer(x, 6, 1, 0, 0, 0);
+        answer(x, 7, 2, 0, 0, 0);
+        x.solve(1, 0, 0);
+        answer(x, 6, 2, 0, 0, 0);
+        Check.due("look(8)", x.look(8), 1);
         x.deepen(0, 3, 0);
         x.any(3, 0);
         x.solve(0, 3, 9);
         Check.due("answer(-1, 0)", x.answer(-1, 0), 8);
         answer(x, 7, 1, 0, 0, 0);
-        Check.due("look(8)", x.look(8), 0);
+        Check.due("look(8)", x.look(8), 1);
         Check.due("drop(9)", x.drop(9), false);
         Check.due("answer(-1, 0)", x.answer(-1, 0), 8);
         Check.due("drop(2)", x.drop(2), true);
