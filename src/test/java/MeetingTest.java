@@ -10,6 +10,7 @@ public final class MeetingTest {
         besideAProof();
         nestedTwiceInTwice();
         longChain();
+        twoLongChains();
         Check.finish("MeetingTest");
     }
 
@@ -123,6 +124,36 @@ public final class MeetingTest {
             sides[side].append("),c(" + e[9] + "," + e[10] + "," + e[11] + "),c(" + e[12] + "," + e[13] + "))");
         }
         pair(sides[0].toString(), sides[1].toString(), 1);
+    }
+
+    /** Two TERMS of 9 to the 7th parts, bound by and by, are found to be ALIKE without going through all of them. */
+    private static void twoLongChains() {
+        String nine = "g(g(Q,Q,Q),g(Q,Q,Q),g(Q,Q,Q))";
+        String[] one = new String[15];
+        String[] other = new String[15];
+        for (int i = 1; i <= 7; i++) {
+            String lower = String.valueOf((char) ('A' + i - 1));
+            String upper = String.valueOf((char) ('A' + i));
+            one[2 * i - 2] = upper;
+            other[2 * i - 2] = nine.replace("Q", lower);
+            one[2 * i - 1] = nine.replace("Q", lower);
+            other[2 * i - 1] = upper;
+        }
+        one[14] = "H";
+        other[14] = "H";
+        pair("p" + grouped(one), "-p" + grouped(other), 1);
+        // Far down they are unlike.
+        one[1] = nine.replace("Q", "a");
+        other[0] = nine.replace("Q", "b");
+        pair("p" + grouped(one), "-p" + grouped(other), 0);
+    }
+
+    private static String grouped(String[] terms) {
+        String[] threes = new String[5];
+        for (int i = 0; i < 5; i++) {
+            threes[i] = "c(" + terms[3 * i] + "," + terms[3 * i + 1] + "," + terms[3 * i + 2] + ")";
+        }
+        return "(c(" + threes[0] + "," + threes[1] + "," + threes[2] + ")," + threes[3] + "," + threes[4] + ")";
     }
 
     /** Terms of some 3 to the 7th parts are ALIKE or not, without going through all of them more than once. */
