@@ -170,6 +170,9 @@ public final class OppositePairs {
                     going |= 1 << c;
                 }
             }
+            if (going == 0) {
+                break;
+            }
             left &= ~going;
         }
         return told.all() & ~left;

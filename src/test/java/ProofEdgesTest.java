@@ -214,10 +214,15 @@ public final class ProofEdgesTest {
         for (int i = -1; i < 5; i++) {
             Check.due("closed(" + i + ")", x.closed(i), want[i + 1]);
         }
-        // Two that are OPPOSITE but not ALIKE do not close.
-        OppositePairs y = solved("p(X)|p(Y). -p(a). -p(b).", 1, 0);
+        // Two that are OPPOSITE but not ALIKE do not close: by a NAME, by VARIABLES that are not bound.
+        OppositePairs y = solved("p(a)|p(b). -p(a). -p(b).", 1, 0);
         Check.due("closed(NONE)", y.closed(NONE), 1);
-        Check.due("the second is there twice", y.closed(2), 1);
+        Check.due("p(a) and -p(b)", y.closed(1), 0);
+        Check.due("p(b) and -p(a)", y.closed(2), 0);
+        OppositePairs v = solved("p(X)|p(Y). -p(U).", 1, 0);
+        Check.due("closed(NONE)", v.closed(NONE), 1);
+        Check.due("p(U1) and -p(U2)", v.closed(1), 0);
+        Check.due("p(U2) and -p(U1)", v.closed(2), 0);
         OppositePairs z = solved("p(X)|q(X). -p(Y). -q(a).", 1, 0);
         Check.due("closed(NONE)", z.closed(NONE), 1);
         Check.due("closed(1)", z.closed(1), 0);

@@ -450,7 +450,10 @@ public final class SearchEdgesTest {
         // One that an EXTENSION needs is closed, the next one is not: the EXTENSION is not closed, and another is tried.
         solved("p(X). -p(X)|q(X)|r(X). -q(a). -q(b). -r(b). -p(c).", 0, 2, RESTRICTED, 1, 4, 2, 0, 3);
         solved("p(X). -p(X)|q(X)|r(X). -q(a). -q(b). -r(b). -p(c).", 0, 2, 0, 1, 5, 2, 0, 4);
-        // Closed by REDUCTION, by a LEMMA.
+        // That an EXTENSION's others can be CLOSED in several ways is several ways, too: q(X) by a, then by b.
+        solved("p(X)|s(X). -p(X)|q(X). -q(a). -q(b). -s(b).", 0, 2, 0, 1, 5, 2, 0, 4);
+        solved("p(X)|s(X). -p(X)|q(X). -q(a). -q(b). -s(b).", 0, 2, RESTRICTED, 0, 3, 2, 0, 2);
+        // Closed by REDUCTION.
         solved("p(X)|s(X). -p(Y)|-p(Z). -s(a).", 0, 1, RESTRICTED, 1, 3, 1, 0, 2);
         solved("p(b). -p(X)|-p(Y)|q(Y). p(a). -q(a).", 0, 2, 0, 1, 7, 2, 0, 4);
         solved("p(b). -p(X)|-p(Y)|q(Y). p(a). -q(a).", 0, 2, RESTRICTED, 0, 6, 1, 0, 2);
