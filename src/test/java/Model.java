@@ -33,8 +33,16 @@ final class Model {
         private static final long serialVersionUID = 1L;
     }
 
+    /** What is put in has come to be too much for this model: it can't tell. */
+    static final class TooGreat extends RuntimeException {
+        private static final long serialVersionUID = 1L;
+    }
+
     interface Way extends Function<State, State> {
     }
+
+    /** How many parts may still be put in. */
+    static long budget = Long.MAX_VALUE;
 
     final List<List<Literal>> clauses;
     int depth;
@@ -101,6 +109,9 @@ final class Model {
     }
 
     static Term put(Term term, Map<String, Term> bound) {
+        if (--budget < 0) {
+            throw new TooGreat();
+        }
         if (term.variable) {
             Term to = bound.get(term.name);
             return to == null ? term : put(to, bound);

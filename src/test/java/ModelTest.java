@@ -5,6 +5,7 @@ public final class ModelTest {
     private static final String[] NAMES = {"p", "q", "r"};
     private static int found;
     private static int givenUp;
+    private static int skipped;
 
     private static String term(Random random, int depth, int variables) {
         int what = random.nextInt(depth > 0 ? 6 : 4);
@@ -45,6 +46,37 @@ public final class ModelTest {
             }
             all.append(random.nextBoolean() ? "." : ".\n ");
         }
+        return all.toString();
+    }
+
+    private static String doubled(Random random, int depth) {
+        int what = random.nextInt(depth > 0 ? 9 : 4);
+        if (what < 4) {
+            return what == 3 ? "a" : String.valueOf((char) ('U' + random.nextInt(4)));
+        }
+        String one = doubled(random, depth - 1);
+        if (what == 8) {
+            return "g(" + one + "," + doubled(random, depth - 1) + ")";
+        }
+        return what < 6 ? "g(" + one + "," + one + ")" : "f(" + one + "," + one + "," + one + ")";
+    }
+
+    /** Clauses that double and triple what is bound: LITERALS come to have more than 40 parts, and more than 300 bytes. */
+    private static String growing(Random random) {
+        StringBuilder all = new StringBuilder();
+        int count = 3 + random.nextInt(4);
+        for (int c = 0; c < count; c++) {
+            int literals = 1 + random.nextInt(random.nextInt(5) + 1);
+            for (int k = 0; k < literals; k++) {
+                String sign = random.nextBoolean() ? "-" : "";
+                String first = doubled(random, random.nextInt(3));
+                String more = random.nextInt(3) == 0 ? "e(" : "d(" + doubled(random, random.nextInt(2)) + ",";
+                all.append(k == 0 ? "" : "|").append(sign).append(more).append(first).append(")");
+            }
+            all.append(".");
+        }
+        all.append(random.nextBoolean() ? "-d(f(X,X,X),X)." : "d(g(X,X),X).");
+        all.append(random.nextBoolean() ? "d(A,B)|d(B,C)|d(C,D)|e(D)|d(A,D).-e(X)." : "");
         return all.toString();
     }
 
@@ -146,24 +178,35 @@ public final class ModelTest {
         compareProof(x, model);
     }
 
-    public static void main(String[] args) {
-        int rounds = args.length > 0 ? Integer.parseInt(args[0]) : 1500;
-        int from = args.length > 1 ? Integer.parseInt(args[1]) : 0;
-        for (int seed = from; seed < from + rounds && !Check.isWrong(); seed++) {
-            Random random = new Random(seed);
-            String text = clauses(random);
+    private static void compare(int seed, String text, Random random) {
+        if (text.length() > 600) {
+            return;
+        }
+        Model.budget = 3000000;
+        try {
             Model model = new Model(text);
             OppositePairs x = Check.told(text);
             compareMeeting(x, model);
             for (int n = 0; n < 4; n++) {
                 compareSearches(x, model, random);
             }
-            if (Check.isWrong()) {
-                System.out.println("seed " + seed + ": " + text);
-            }
+        } catch (Model.TooGreat enough) {
+            skipped++;
+        }
+        if (Check.isWrong()) {
+            System.out.println("seed " + seed + ": " + text);
+        }
+    }
+
+    public static void main(String[] args) {
+        int rounds = args.length > 0 ? Integer.parseInt(args[0]) : 1500;
+        int from = args.length > 1 ? Integer.parseInt(args[1]) : 0;
+        for (int seed = from; seed < from + rounds && !Check.isWrong(); seed++) {
+            Random random = new Random(seed);
+            compare(seed, seed % 5 == 4 ? growing(random) : clauses(random), random);
         }
         Check.due("enough proofs", found > rounds, true);
-        System.out.println(found + " proofs, " + givenUp + " given up");
+        System.out.println(found + " proofs, " + givenUp + " given up, " + skipped + " too great for the model");
         Check.finish("ModelTest");
     }
 }
