@@ -6,6 +6,7 @@ public final class ModelTest {
     private static int found;
     private static int givenUp;
     private static int skipped;
+    private static boolean ended;
 
     private static String term(Random random, int depth, int variables) {
         int what = random.nextInt(depth > 0 ? 6 : 4);
@@ -152,7 +153,7 @@ public final class ModelTest {
     private static void compareSearches(OppositePairs x, Model model, Random random) {
         int start = random.nextInt(model.clauses.size());
         int options = random.nextInt(8);
-        int depth = random.nextInt(6);
+        int depth = random.nextInt(5) == 0 ? 6 + random.nextInt(15) : random.nextInt(6);
         model.begin();
         int want = model.solve(start, depth, options);
         givenUp += want == -2 ? 1 : 0;
@@ -198,13 +199,22 @@ public final class ModelTest {
         }
     }
 
-    public static void main(String[] args) {
-        int rounds = args.length > 0 ? Integer.parseInt(args[0]) : 1500;
-        int from = args.length > 1 ? Integer.parseInt(args[1]) : 0;
+    private static void compareAll(int from, int rounds) {
         for (int seed = from; seed < from + rounds && !Check.isWrong(); seed++) {
             Random random = new Random(seed);
             compare(seed, seed % 5 == 4 ? growing(random) : clauses(random), random);
         }
+        ended = true;
+    }
+
+    public static void main(String[] args) throws InterruptedException {
+        int rounds = args.length > 0 ? Integer.parseInt(args[0]) : 1500;
+        int from = args.length > 1 ? Integer.parseInt(args[1]) : 0;
+        // The model, not the class, goes deep: it needs more room for that than .ci/run gives.
+        Thread thread = new Thread(null, () -> compareAll(from, rounds), "model", 1 << 28);
+        thread.start();
+        thread.join();
+        Check.due("nothing was thrown", ended, true);
         Check.due("enough proofs", found > rounds, true);
         System.out.println(found + " proofs, " + givenUp + " given up, " + skipped + " too great for the model");
         Check.finish("ModelTest");
